@@ -155,6 +155,9 @@ public final class AskedTest {
             Due.is("row(" + i + ")", x.row(i), row[i]);
         }
         Due.is("how many", x.ask(2), 5);
+        x.lift(4);
+        Due.is("how many are left", x.ask(2), 4);
+        Due.is("the same again", x.ask(2), 4);
     }
 
     private static void judgedNumbers() {

@@ -6,6 +6,8 @@ public final class SharesTest {
     public static void main(String[] args) {
         shares();
         sharesRefused();
+        sharesOfSix();
+        twentySteps();
         lessThanNought();
         shutOnce();
         shutOften();
@@ -65,6 +67,42 @@ public final class SharesTest {
         Due.is("seven are not sound", x.share(1, true), ZoneBelt.STATE);
         Due.is("seven are not sound", x.share(8, false), ZoneBelt.STATE);
         Due.is("seven are not sound", x.share(9, false), ZoneBelt.UNKNOWN);
+    }
+
+    private static void sharesOfSix() {
+        ZoneBelt x = Due.told("Z81100c00");
+        for (int zone = 1; zone <= 5; zone++) {
+            x.eye(zone, 1);
+        }
+        x.eye(8, 1);
+        // zone 8 adds nothing, so the five share alone, each as the last of them
+        for (int zone = 1; zone <= 5; zone++) {
+            share(x, zone, 1, 5);
+        }
+        share(x, 8, 0, 1);
+        ZoneBelt y = Due.told("Z80100c03c04c05c06c07");
+        for (int zone = 3; zone <= 7; zone++) {
+            y.eye(zone, 1);
+        }
+        // a carton goes out when its zone and all behind it are mended: 1/5 for five, 1/4 for four, ..
+        share(y, 3, 1, 5);
+        share(y, 4, 9, 20);
+        share(y, 5, 47, 60);
+        share(y, 6, 77, 60);
+        share(y, 7, 137, 60);
+    }
+
+    private static void twentySteps() {
+        ZoneBelt x = Due.told("Z84102");
+        x.step(2);
+        x.feed(1);
+        Due.is("eleven zones asleep", x.ask(0), 22);
+        x.eye(7, 1);
+        share(x, 7, 0, 1);
+        x.step(1);
+        share(x, 7, 0, 1);
+        x.step(1);
+        share(x, 7, 1, 1);
     }
 
     private static void lessThanNought() {

@@ -211,6 +211,7 @@ public final class StepTest {
         Due.is("asleep", x.count(12), 0);
         x.step(1);
         Due.is("all asleep", x.count(12), 7);
+        Due.all("each told", Due.zones(x, 4), 1, 1, 1);
         x.feed(0);
         Due.is("fed wakes none", x.count(12), 7);
         x.step(1);
@@ -275,5 +276,15 @@ public final class StepTest {
         x.step(1);
         Due.all("line 1 feeds within", Due.zones(x, 0), NONE, NONE, 1, NONE, 2);
         Due.all("idle by zone 4, that feeds zone 2", Due.zones(x, 5), 5, 5, 0, 5, 0);
+        ZoneBelt entry = Due.told("Z31200c00c01");
+        entry.turn();
+        entry.eye(1, 2);
+        entry.step(3);
+        Due.all("line 0 keeps line 1 not busy", Due.zones(entry, 5), 0, 0, 0, 3);
+        ZoneBelt alone = Due.told("Z31200c03c02");
+        alone.turn();
+        alone.eye(2, 1);
+        alone.step(3);
+        Due.all("a line of one zone feeds, too", Due.zones(alone, 5), 3, 3, 0, 0);
     }
 }
