@@ -73,7 +73,7 @@ public final class ZoneBelt {
         text.layOut(now);
         acts.forgetAll();
         keptSlots = 0;
-        return now.zones();
+        return now.zones;
     }
 
     public int zone(int zone, int what) {
@@ -197,7 +197,7 @@ public final class ZoneBelt {
         int wanted = now.cells[Belt.OUT] + place + 1;
         trial.copy(now);
         for (int i = 0; i < FAR_AHEAD; i++) {
-            trial.advance(1);
+            trial.advanceOnce();
             if (trial.cells[Belt.OUT] == wanted) {
                 return trial.justOut;
             }
@@ -240,7 +240,7 @@ public final class ZoneBelt {
 
     public int which() {
         int fitting = 0;
-        for (int zone = 0; zone < now.zones(); zone++) {
+        for (int zone = 0; zone < now.zones; zone++) {
             if (now.cells[Belt.EYE + zone] == Belt.SOUND) {
                 trial.copy(now);
                 trial.cells[Belt.EYE + zone] = Belt.DARK;
@@ -294,7 +294,7 @@ public final class ZoneBelt {
             if (trial.canFeed(line)) {
                 trial.putNext(trial.entryOf(line));
             }
-            trial.advance(1);
+            trial.advanceOnce();
         }
         return trial.cells[Belt.OUT] - now.cells[Belt.OUT];
     }
@@ -388,7 +388,7 @@ public final class ZoneBelt {
             if (trial.loaded() == 0) {
                 return n;
             }
-            trial.advance(1);
+            trial.advanceOnce();
         }
         return trial.loaded() == 0 ? FAR_AHEAD : NONE;
     }
@@ -415,7 +415,8 @@ public final class ZoneBelt {
         int last = doing % 10;
         switch (kind) {
             case 1:
-                return stepsTold(belt, doing % 100);
+                belt.advance(doing % 100);
+                return doing % 100 > 0;
             case 2:
                 return middle == 0 && feedTold(belt, last);
             case 3:
@@ -433,14 +434,6 @@ public final class ZoneBelt {
             default:
                 return false;
         }
-    }
-
-    private static boolean stepsTold(Belt belt, int steps) {
-        if (steps < 1) {
-            return false;
-        }
-        belt.advance(steps);
-        return true;
     }
 
     private static boolean turnTold(Belt belt, int figure) {
@@ -479,7 +472,7 @@ public final class ZoneBelt {
     private int listUnsound(int wanted) {
         int size = 0;
         int place = 0;
-        for (int zone = 0; zone < now.zones() && size < MOST_UNSOUND; zone++) {
+        for (int zone = 0; zone < now.zones && size < MOST_UNSOUND; zone++) {
             if (now.cells[Belt.EYE + zone] != Belt.SOUND) {
                 if (zone == wanted) {
                     place = size;
@@ -499,7 +492,7 @@ public final class ZoneBelt {
             }
         }
         for (int i = 0; i < SHARED_STEPS && trial.loaded() != 0; i++) {
-            trial.advance(1);
+            trial.advanceOnce();
         }
         return trial.cells[Belt.OUT];
     }
@@ -533,7 +526,7 @@ public final class ZoneBelt {
             if (tenths > 0) {
                 branches.get(steps, belt);
                 belt.cells[Belt.OPEN] = open;
-                belt.advance(1);
+                belt.advanceOnce();
                 ways += tenths * waysToEmpty(belt, branches, steps - 1, x);
             }
         }
@@ -579,6 +572,7 @@ public final class ZoneBelt {
 
         int mainZones;
         int sideZones;
+        int zones;
         int meeting;
         final int[] cells;
         /** The carton that the last step let out, 0 if there was none. */
@@ -587,6 +581,7 @@ public final class ZoneBelt {
         Belt() {
             mainZones = 2;
             sideZones = 0;
+            zones = 2;
             meeting = 1;
             cells = new int[CELLS];
             cells[OPEN] = 1;
@@ -604,6 +599,7 @@ public final class ZoneBelt {
         void begin(int main, int side, int meets) {
             mainZones = main;
             sideZones = side;
+            zones = main + side;
             meeting = meets;
             for (int i = 0; i < CELLS; i++) {
                 cells[i] = 0;
@@ -614,16 +610,13 @@ public final class ZoneBelt {
         void copy(Belt other) {
             mainZones = other.mainZones;
             sideZones = other.sideZones;
+            zones = other.zones;
             meeting = other.meeting;
             System.arraycopy(other.cells, 0, cells, 0, CELLS);
         }
 
-        int zones() {
-            return mainZones + sideZones;
-        }
-
         boolean hasZone(int zone) {
-            return zone >= 0 && zone < zones() && zone < MOST_ZONES;
+            return zone >= 0 && zone < zones && zone < MOST_ZONES;
         }
 
         boolean hasLine(int line) {
@@ -674,7 +667,7 @@ public final class ZoneBelt {
 
         int loaded() {
             int set = 0;
-            for (int zone = 0; zone < zones(); zone++) {
+            for (int zone = 0; zone < zones; zone++) {
                 if (hasCarton(zone)) {
                     set |= 1 << zone;
                 }
@@ -684,7 +677,7 @@ public final class ZoneBelt {
 
         int seeing() {
             int set = 0;
-            for (int zone = 0; zone < zones(); zone++) {
+            for (int zone = 0; zone < zones; zone++) {
                 int eye = cells[EYE + zone];
                 if (eye == LIGHT || eye == SOUND && hasCarton(zone)) {
                     set |= 1 << zone;
@@ -695,7 +688,7 @@ public final class ZoneBelt {
 
         int countUnsound() {
             int size = 0;
-            for (int zone = 0; zone < zones(); zone++) {
+            for (int zone = 0; zone < zones; zone++) {
                 if (cells[EYE + zone] != SOUND) {
                     size++;
                 }
@@ -709,25 +702,25 @@ public final class ZoneBelt {
             }
         }
 
-        private void advanceOnce() {
+        void advanceOnce() {
             int sees = seeing();
             int slept = cells[ASLEEP];
             int wish = sees & ~cells[JAMMED] & ~slept;
             cells[ASLEEP] = slept & ~sees & ~behindThose(wish);
             giveTickets(wish);
-            moveThose(settle(wish, ~sees & ~slept));
+            moveThose(settle(wish & ~yielding(wish), ~sees & ~slept));
             tellIdle();
             cells[CLOCK]++;
         }
 
         /** The zone behind this one, which must not be the last of line 0. */
         private int behind(int zone) {
-            return zone == zones() - 1 ? meeting : zone + 1;
+            return zone == zones - 1 ? meeting : zone + 1;
         }
 
         private int behindThose(int set) {
             int result = 0;
-            for (int zone = 0; zone < zones(); zone++) {
+            for (int zone = 0; zone < zones; zone++) {
                 if (in(set, zone) && zone != mainZones - 1) {
                     result |= 1 << behind(zone);
                 }
@@ -738,7 +731,7 @@ public final class ZoneBelt {
         private int feedersOf(int zone) {
             int set = zone == 0 || zone == mainZones ? 0 : 1 << (zone - 1);
             if (zone == meeting && sideZones > 0) {
-                set |= 1 << (zones() - 1);
+                set |= 1 << (zones - 1);
             }
             return set;
         }
@@ -746,7 +739,7 @@ public final class ZoneBelt {
         private void giveTickets(int wish) {
             giveTicket(wish, meeting - 1);
             if (sideZones > 0) {
-                giveTicket(wish, zones() - 1);
+                giveTicket(wish, zones - 1);
             }
         }
 
@@ -757,15 +750,25 @@ public final class ZoneBelt {
             }
         }
 
-        /** The zones that go; each one's neighbour behind is settled ahead of it. */
-        private int settle(int wish, int clear) {
-            int exit = mainZones - 1;
-            int goes = cells[OPEN] == 1 ? wish & (1 << exit) : 0;
-            for (int zone = exit - 1; zone >= 0; zone--) {
-                goes |= goer(zone, wish, roomWith(goes, clear));
+        /** Of two that feed the meeting zone the one that gives way; for both there is room there, or for none. */
+        private int yielding(int wish) {
+            int main = meeting - 1;
+            int side = zones - 1;
+            if (sideZones == 0 || !in(wish, main) || !in(wish, side)) {
+                return 0;
             }
-            for (int zone = zones() - 1; zone >= mainZones; zone--) {
-                goes |= goer(zone, wish, roomWith(goes, clear));
+            return cells[TICKET + main] < cells[TICKET + side] ? 1 << side : 1 << main;
+        }
+
+        /** The zones that go, of those that would; each one's neighbour behind is settled ahead of it. */
+        private int settle(int would, int clear) {
+            int exit = mainZones - 1;
+            int goes = cells[OPEN] == 1 ? would & (1 << exit) : 0;
+            for (int zone = exit - 1; zone >= 0; zone--) {
+                goes |= goer(zone, would, roomWith(goes, clear));
+            }
+            for (int zone = zones - 1; zone >= mainZones; zone--) {
+                goes |= goer(zone, would, roomWith(goes, clear));
             }
             return goes;
         }
@@ -774,25 +777,8 @@ public final class ZoneBelt {
             return cells[TRAIN] == 1 ? clear | goes : clear;
         }
 
-        private int goer(int zone, int wish, int room) {
-            return mayGo(zone, wish, room) && !yields(zone, wish, room) ? 1 << zone : 0;
-        }
-
-        private boolean mayGo(int zone, int wish, int room) {
-            return in(wish, zone) && in(room, behind(zone));
-        }
-
-        private boolean yields(int zone, int wish, int room) {
-            if (sideZones == 0) {
-                return false;
-            }
-            int main = meeting - 1;
-            int side = zones() - 1;
-            if (zone != main && zone != side) {
-                return false;
-            }
-            int rival = zone == main ? side : main;
-            return mayGo(rival, wish, room) && cells[TICKET + rival] < cells[TICKET + zone];
+        private int goer(int zone, int would, int room) {
+            return in(would, zone) && in(room, behind(zone)) ? 1 << zone : 0;
         }
 
         private void moveThose(int goes) {
@@ -802,7 +788,7 @@ public final class ZoneBelt {
                     handOn(zone);
                 }
             }
-            for (int zone = zones() - 1; zone >= mainZones; zone--) {
+            for (int zone = zones - 1; zone >= mainZones; zone--) {
                 if (in(goes, zone)) {
                     handOn(zone);
                 }
@@ -826,7 +812,7 @@ public final class ZoneBelt {
 
         private void tellIdle() {
             int sees = seeing();
-            for (int zone = 0; zone < zones(); zone++) {
+            for (int zone = 0; zone < zones; zone++) {
                 if ((sees & ((1 << zone) | feedersOf(zone))) != 0) {
                     cells[IDLE + zone] = 0;
                 } else {
@@ -930,7 +916,7 @@ public final class ZoneBelt {
                 if (!soBehind(steps, belt.cells[Belt.OUT])) {
                     return false;
                 }
-                belt.advance(1);
+                belt.advanceOnce();
             }
             return true;
         }
