@@ -19,6 +19,7 @@ public final class StepTest {
         sleepAndWake();
         restNought();
         idleByFeeders();
+        twelveZones();
         Due.end("StepTest");
     }
 
@@ -286,5 +287,22 @@ public final class StepTest {
         alone.eye(2, 1);
         alone.step(3);
         Due.all("a line of one zone feeds, too", Due.zones(alone, 5), 3, 3, 0, 0);
+    }
+
+    /** The last of twelve zones, with all that it can have, leaves what others have as it is. */
+    private static void twelveZones() {
+        ZoneBelt x = Due.told("Z84102c01c11c07");
+        x.turn();
+        x.step(1);
+        Due.all("cartons", Due.zones(x, 0), NONE, NONE, 1, NONE, NONE, NONE, NONE, 3, NONE, NONE, NONE, 2);
+        Due.all("eyes", Due.zones(x, 1), 0, 0, 0, 0, 0, 0, 0, 0, 0, 0, 0, 0);
+        Due.all("jammed", Due.zones(x, 3), 0, 0, 0, 0, 0, 0, 0, 0, 0, 0, 0, 0);
+        Due.all("idle", Due.zones(x, 5), 1, 0, 0, 0, 1, 1, 1, 0, 1, 1, 1, 0);
+        Due.all("tickets", Due.zones(x, 6), 0, 0, 0, 0, 0, 0, 0, 0, 0, 0, 0, 1);
+        x.step(2);
+        Due.all("cartons", Due.zones(x, 0), NONE, NONE, 2, NONE, 1, NONE, NONE, 3, NONE, NONE, NONE, NONE);
+        Due.is("zone 11 is idle", x.zone(11, 5), 2);
+        Due.is("and asleep", x.zone(11, 4), 1);
+        Due.all("tickets", Due.zones(x, 6), 0, 0, 0, 0, 0, 0, 0, 0, 0, 0, 0, 0);
     }
 }

@@ -84,6 +84,8 @@ public final class TextTest {
         fault("Z84300c11", NONE);
         fault("Z84300c12", 8);
         fault("Z84300c2", 7);
+        fault("Z84300c0:", 8);
+        fault("Z84300c1/", 8);
         fault("Z84300c/1", 7);
         fault("Z84300c10c11c1", 13);
         fault("Z84300c10c11c0", 14);
@@ -135,6 +137,9 @@ public final class TextTest {
         Due.is("the first ticket was used", x.zone(3, 6), 0);
         Due.is("the second ticket", x.zone(7, 6), 2);
         Due.is("the same text again", x.belt(), 8);
+        Due.lay(x, "Z20100c01");
+        Due.all("the old cartons are gone", Due.zones(x, 0), NONE, 1);
+        Due.lay(x, "Z62415c00c05c07c03");
         Due.all("counts", Due.counts(x), 18, 6, 2, 4, 1, 5, 1, 0, 4, 0, 0xa9, 0, 0, 0, 1);
     }
 
