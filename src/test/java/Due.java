@@ -2,15 +2,21 @@
 final class Due {
     private static int asked = 0;
     private static int wrong = 0;
+    private static String told = "";
 
     private Due() {
+    }
+
+    /** The sentence of the document that the next answers are held against, word by word. */
+    static void sentence(String words) {
+        told = words;
     }
 
     static void is(String call, long got, long want) {
         asked++;
         if (got != want) {
             wrong++;
-            System.out.println(call + " answered " + got + ", due is " + want);
+            System.out.println(call + " answered " + got + ", due is " + want + (told.isEmpty() ? "" : " by: " + told));
         }
     }
 
