@@ -25,6 +25,7 @@ public final class EdgesOfActsTest {
         undoneEach();
         undoneLeaves();
         nothingToUndo();
+        fiveHundredAndTwelve();
         Due.end("EdgesOfActsTest");
     }
 
@@ -365,5 +366,31 @@ public final class EdgesOfActsTest {
         x.keep(0);
         x.again(0);
         Due.is("when one goes on from a slot", x.undo(), STATE);
+    }
+
+    private static void fiveHundredAndTwelve() {
+        Due.sentence("An object is used for at most 512 calls after it has been made");
+        ZoneBelt turns = new ZoneBelt();
+        for (int call = 1; call <= 511; call++) {
+            Due.is("turn()", turns.turn(), call % 2 == 0 ? 1 : 0);
+        }
+        Due.is("the 512th", turns.undo(), 13);
+        ZoneBelt steps = new ZoneBelt();
+        for (int call = 1; call <= 510; call++) {
+            Due.is("step(99)", steps.step(99), 0);
+        }
+        Due.is("the clock", steps.count(7), 510 * 99);
+        Due.is("idle, by the 512th", steps.zone(1, 5), 510 * 99);
+        ZoneBelt tickets = new ZoneBelt();
+        tickets.eye(0, 2);
+        tickets.eye(1, 2);
+        for (int call = 3; call <= 508; call++) {
+            tickets.step(99);
+        }
+        Due.is("the first ticket is waited with", tickets.zone(0, 6), 1);
+        tickets.eye(1, 0);
+        tickets.step(99);
+        Due.is("used and taken each step, the last one gone", tickets.zone(0, 6), 0);
+        Due.is("the 512th", tickets.count(7), 507 * 99);
     }
 }

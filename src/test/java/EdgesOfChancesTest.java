@@ -70,6 +70,13 @@ public final class EdgesOfChancesTest {
         x.eye(8, 0);
         Due.is("six again", x.share(0, false) > 0 ? 1 : 0, 1);
         Due.is("the mended one", x.share(8, true), STATE);
+        ZoneBelt y = Due.told("Z80100c00");
+        for (int zone = 1; zone <= 6; zone++) {
+            y.eye(zone, 1);
+        }
+        // the carton goes out only when all six are mended
+        share(y, 1, 1, 6);
+        share(y, 6, 1, 6);
     }
 
     /** The shares of all add up to what is out when all are mended, less what is out as it is. */
@@ -78,26 +85,30 @@ public final class EdgesOfChancesTest {
             + "behind the next 20 STEPS in the mean when it is: a FRACTION.");
         String[] texts = {"Z84110c00c01c02c03c04c08c11", "Z84300c11c10c02c05c07", "Z71111c00c01c07c05"};
         for (String text : texts) {
-            ZoneBelt x = Due.told(text);
-            int[] eyes = {1, 2, 0, 1, 0, 2, 1};
-            for (int zone = 0; zone < eyes.length; zone++) {
-                x.eye(zone, eyes[zone]);
-            }
-            long sum = 0;
-            for (int zone = 0; zone < eyes.length; zone++) {
-                if (eyes[zone] != 0) {
-                    int below = x.share(zone, false);
-                    Due.is("a part of 120", 120 % below, 0);
-                    sum += (long) x.share(zone, true) * (120 / below);
-                }
-            }
-            int asItIs = x.step(20);
-            x.undo();
-            for (int zone = 0; zone < eyes.length; zone++) {
-                x.eye(zone, 0);
-            }
-            Due.is("the sum in " + text, sum, 120L * (x.step(20) - asItIs));
+            sharesOf(text, 120, 1, 2, 0, 1, 0, 2, 1);
+            sharesOf(text, 720, 1, 2, 1, 1, 0, 2, 1);
         }
+    }
+
+    private static void sharesOf(String text, int orders, int... eyes) {
+        ZoneBelt x = Due.told(text);
+        for (int zone = 0; zone < eyes.length; zone++) {
+            x.eye(zone, eyes[zone]);
+        }
+        long sum = 0;
+        for (int zone = 0; zone < eyes.length; zone++) {
+            if (eyes[zone] != 0) {
+                int below = x.share(zone, false);
+                Due.is("a part of " + orders, below > 0 ? orders % below : -1, 0);
+                sum += below > 0 ? (long) x.share(zone, true) * (orders / below) : 0;
+            }
+        }
+        int asItIs = x.step(20);
+        x.undo();
+        for (int zone = 0; zone < eyes.length; zone++) {
+            x.eye(zone, 0);
+        }
+        Due.is("the sum in " + text, sum, (long) orders * (x.step(20) - asItIs));
     }
 
     private static void onlyOneMended() {
